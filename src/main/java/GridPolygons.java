@@ -6,7 +6,7 @@ public final class GridPolygons {
     private static final int WIDTH = 16;
     private static final int POINTS = 256;
     private static final int MOST = 10;
-    private static final int MOST_PAIRS = 100;
+    private static final int MOST_PAIRS = MOST * MOST;
 
     private static final int OUTSIDE = -1;
     private static final int ON_EDGE = 0;
@@ -88,10 +88,8 @@ public final class GridPolygons {
     }
 
     public int reverse() {
-        int high = count - 1;
-        for (int low = 1; low < high; low++) {
-            swapCorners(low, high);
-            high--;
+        for (int low = 1; 2 * low < count; low++) {
+            swapCorners(low, count - low);
         }
         return count;
     }
@@ -101,7 +99,7 @@ public final class GridPolygons {
             return NONE;
         }
         int kept = (p <= q ? q - p : q - p + count) + 1;
-        takeInTurn(p, kept);
+        keepFrom(p, kept);
         return count;
     }
 
@@ -272,8 +270,8 @@ public final class GridPolygons {
         ys[j] = y;
     }
 
-    // The list becomes the corners from first on, as many as kept, going on at corner 0.
-    private void takeInTurn(int first, int kept) {
+    // By way of the spare arrays, for a corner may go where another one has yet to be read.
+    private void keepFrom(int first, int kept) {
         int from = first;
         for (int k = 0; k < kept; k++) {
             spareXs[k] = xs[from];
@@ -304,7 +302,7 @@ public final class GridPolygons {
         return (xs[b] - xs[a]) * (ys[c] - ys[a]) - (ys[b] - ys[a]) * (xs[c] - xs[a]);
     }
 
-    // Whether corner c lies on the straight line between a and b, its ends included.
+    // The ends a and b count too: a side that starts at another side's end touches it.
     private boolean isBetween(int a, int b, int c) {
         int ax = xs[a] - xs[c];
         int ay = ys[a] - ys[c];
@@ -313,8 +311,8 @@ public final class GridPolygons {
         return ax * by == ay * bx && ax * bx + ay * by <= 0;
     }
 
-    // Whether the lines from a to b and from c to d have a point in common.
     private boolean linesMeet(int a, int b, int c, int d) {
+        // An end that touches comes first: after that, ends on different sides mean a crossing.
         if (isBetween(a, b, c) || isBetween(a, b, d) || isBetween(c, d, a) || isBetween(c, d, b)) {
             return true;
         }
@@ -325,8 +323,8 @@ public final class GridPolygons {
         return cLeft != dLeft && aLeft != bLeft;
     }
 
-    // Whether the sides that start at the corners i and j have a point in common that they may
-    // not have. All corners are known to be different points.
+    // Asked of the sides that start at i and j when all corners are different points, so that
+    // neighbouring sides can share more than their corner only by lying one along the other.
     private boolean sidesClash(int i, int j) {
         int afterI = next(i);
         int afterJ = next(j);
@@ -339,7 +337,7 @@ public final class GridPolygons {
         return linesMeet(i, afterI, j, afterJ);
     }
 
-    // Above 0 if the polygon goes round left.
+    // Its sign tells the way round: above 0 is left.
     private int signedArea() {
         int twice = 0;
         for (int i = 0; i < count; i++) {
@@ -401,7 +399,7 @@ public final class GridPolygons {
         return placeOf(xs[p] + xs[q], ys[p] + ys[q]) == INSIDE;
     }
 
-    // Sums over the corner that makes a triangle with p and q.
+    // In each tiling just one corner makes a triangle with p and q, so nothing counts twice.
     private int tilingsOfPart(int p, int q) {
         if (q == p + 1) {
             return 1;
@@ -413,7 +411,7 @@ public final class GridPolygons {
         return sum;
     }
 
-    // Whether the hull, gone round left, has a side from corner a to corner b.
+    // The hull is gone round left, so that each of its sides is found in one direction alone.
     private boolean isHullSide(int a, int b) {
         if (isSamePoint(a, b) || isRepeated(a) || isRepeated(b)) {
             return false;

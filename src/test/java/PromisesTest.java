@@ -131,6 +131,9 @@ public final class PromisesTest {
             due("insert(0, " + bad + ")", x.insert(0, bad), BAD_ARG);
         }
         dueCorners("insert", x, 6, 0, 15, 15, 5, 0, 7, 0);
+        GridPolygons between = polygon(1, 2, 3, 4, 5, 6, 7, 8);
+        due("insert(1, 169)", between.insert(1, at(9, 10)), 5);
+        dueCorners("insert(1, 169)", between, 1, 2, 9, 10, 3, 4, 5, 6, 7, 8);
         GridPolygons full = ten();
         full.remove(9);
         due("insert(9, 105)", full.insert(9, at(9, 6)), 10);
@@ -204,6 +207,14 @@ public final class PromisesTest {
         GridPolygons lastLeaves = polygon(1, 1, 2, 2, 0, 9);
         due("move(-1, 1)", lastLeaves.move(-1, 1), BAD_ARG);
         dueCorners("a refused move", lastLeaves, 1, 1, 2, 2, 0, 9);
+        GridPolygons firstLeaves = polygon(0, 9, 1, 1, 2, 2);
+        due("move(-1, 0)", firstLeaves.move(-1, 0), BAD_ARG);
+        due("move(0, 7)", firstLeaves.move(0, 7), BAD_ARG);
+        dueCorners("a refused move", firstLeaves, 0, 9, 1, 1, 2, 2);
+        GridPolygons full = ten();
+        due("move(6, 0) of ten", full.move(6, 0), 10);
+        due("move(-6, 0) of ten", full.move(-6, 0), 10);
+        dueTen("move of ten", full);
         GridPolygons improper = polygon(15, 0, 15, 0);
         due("move(-15, 15)", improper.move(-15, 15), 2);
         dueCorners("move of an improper one", improper, 0, 15, 0, 15);
@@ -290,6 +301,9 @@ public final class PromisesTest {
         due("there and back at corner 0", polygon(6, 0, 3, 0, 3, 3, 0, 0).proper(), false);
         due("there and farther back", polygon(2, 0, 6, 0, 0, 0, 3, 5).proper(), false);
         due("a corner on a side", polygon(0, 0, 8, 0, 8, 8, 4, 0, 0, 8).proper(), false);
+        due("its last corner on a side", polygon(0, 0, 8, 0, 8, 8, 0, 8, 4, 0).proper(), false);
+        due("corner 0 on a side", polygon(4, 0, 0, 8, 0, 0, 8, 0, 8, 8).proper(), false);
+        due("corner 1 on a side", polygon(8, 8, 4, 0, 0, 8, 0, 0, 8, 0).proper(), false);
         due("a corner near a side", polygon(0, 0, 8, 0, 8, 8, 4, 1, 0, 8).proper(), true);
         due("a side along a side", polygon(0, 0, 8, 0, 8, 4, 6, 0, 2, 0, 0, 4).proper(), false);
         due("sides on one line apart", polygon(0, 0, 2, 0, 3, 2, 5, 0, 7, 0, 7, 5, 0, 5).proper(), true);
@@ -409,6 +423,9 @@ public final class PromisesTest {
         back.reverse();
         due("ten round to the right", back.convex(), true);
         due("corners straight between", triangleOfSix().convex(), true);
+        GridPolygons sixBack = triangleOfSix();
+        sixBack.reverse();
+        due("corners straight between, to the right", sixBack.convex(), true);
         due("bent in", polygon(0, 0, 8, 0, 8, 8, 4, 7, 0, 8).convex(), false);
     }
 

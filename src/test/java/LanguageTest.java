@@ -46,9 +46,9 @@ import javax.tools.ToolProvider;
 
 // Reads the source of the class with javac's parser and holds it against the rules of LANGUAGE.md
 // that can be seen in its text. It is stricter than the rules where that makes it simpler: arrays
-// are made in fields' initialisers alone, and every loop is a for loop with a counter. Rule 7 is
-// tested by calls (BoundariesTest); rule 11 follows from rule 3, and the public face of rule 1 is
-// FaceTest's.
+// are made in fields' initialisers alone and have no other name than the field's, and every loop is
+// a for loop with a counter. Rule 7 is tested by calls (BoundariesTest); rule 11 follows from rule 3,
+// and the public face of rule 1 is FaceTest's.
 public final class LanguageTest {
     private static final String SOURCE = "src/main/java/GridPolygons.java";
 
@@ -231,6 +231,9 @@ public final class LanguageTest {
             if (!(item instanceof PrimitiveTypeTree)) {
                 fault(2, variable, variable.getName() + " is no number, boolean or array of these");
             }
+            if (isInMethod && type instanceof ArrayTypeTree) {
+                fault(4, variable, variable.getName() + " is a second name of an array");
+            }
             return super.visitVariable(variable, none);
         }
 
@@ -290,6 +293,15 @@ public final class LanguageTest {
                 fault(4, assignment, "an array field is assigned to");
             }
             return super.visitAssignment(assignment, none);
+        }
+
+        @Override
+        public Void visitBinary(BinaryTree both, Void none) {
+            if (arrayFields.contains(both.getLeftOperand().toString())
+                || arrayFields.contains(both.getRightOperand().toString())) {
+                fault(4, both, "an array is compared: " + both);
+            }
+            return super.visitBinary(both, none);
         }
 
         @Override

@@ -49,6 +49,9 @@ public final class BoundariesTest {
     private static final int[] STRAIGHT = {0, 0, 5, 5, 15, 15, 0, 15};
     private static final int[] LEAST_BULGE = {0, 0, 14, 13, 15, 14, 0, 15};
 
+    // The line from (0, 10) to (14, 5) has its middle inside, and one side alone crosses it.
+    private static final int[] HOOKED = {0, 0, 15, 0, 14, 5, 12, 1, 10, 10, 0, 10};
+
     private static final int[][] TOO_FEW = {EMPTY, ONE, TWO, {3, 4, 3, 4}};
 
     private static final int[][] SAME_POINT = {
@@ -79,7 +82,7 @@ public final class BoundariesTest {
 
     private static final int[][] PROPER = {
         LEAST, THIN, TRIANGLE, SQUARE, WHOLE_GRID, NOTCHED, TEN_ROUND, TRIANGLE_OF_SIX, THIN_U,
-        LEAST_DENT, STRAIGHT, LEAST_BULGE,
+        LEAST_DENT, STRAIGHT, LEAST_BULGE, HOOKED,
         {0, 0, 8, 0, 8, 8, 4, 1, 0, 8},
         {0, 0, 6, 0, 3, 1, 3, 3},
         {0, 0, 2, 0, 2, 2, 3, 2, 3, 0, 5, 0, 5, 5, 0, 5},
@@ -457,6 +460,22 @@ public final class BoundariesTest {
         due("cut(2, 0) past the least bulge", polygon(LEAST_BULGE).cut(2, 0), true);
         GridPolygons partly = polygon(0, 0, 12, 0, 15, 3, 15, 8, 8, 1, 0, 2);
         due("partly outside", partly.cut(5, 2), false);
+    }
+
+    // Whichever number the one side has that crosses the line.
+    private static void aCutIsNotPartlyOutside() {
+        for (int first = 0; first < 6; first++) {
+            for (int step = -1; step <= 1; step += 2) {
+                int[] list = turned(HOOKED, first, step);
+                int left = Math.floorMod(step * (5 - first), 6);
+                int hook = Math.floorMod(step * (2 - first), 6);
+                int dent = Math.floorMod(step * (3 - first), 6);
+                due("cut from (0, 10) to (14, 5) of " + text(list), polygon(list).cut(left, hook), false);
+                due("cut from (14, 5) to (0, 10) of " + text(list), polygon(list).cut(hook, left), false);
+                due("cut from (0, 10) to (12, 1) of " + text(list), polygon(list).cut(left, dent), true);
+                due("cut from (12, 1) to (0, 10) of " + text(list), polygon(list).cut(dent, left), true);
+            }
+        }
     }
 
     private static void cutsOfATilingDoNotCross() {
@@ -1370,6 +1389,7 @@ public final class BoundariesTest {
         test("Terms: a cut's points lie inside, none on a side it touches", BoundariesTest::aCutTouchesNoSide);
         test("Terms: a cut's points lie inside, not on the edge", BoundariesTest::aCutIsNotEdge);
         test("Terms: a cut's points lie inside, not outside", BoundariesTest::aCutIsNotOutside);
+        test("Terms: a cut's points lie inside, all of them", BoundariesTest::aCutIsNotPartlyOutside);
         test("Terms: no two cuts of a tiling have a point in common", BoundariesTest::cutsOfATilingDoNotCross);
         test("Terms: with three corners none are needed", BoundariesTest::threeCornersHaveTheEmptyTiling);
         test("Terms: hull corners are not between two other points", BoundariesTest::hullCornersAreNotBetweenOthers);

@@ -173,32 +173,32 @@ public final class ModelTest {
         }
 
         int where(int point) {
-            return !proper() || point < 0 || point > 255 ? NONE : place(2 * (point % 16), 2 * (point / 16));
+            return !proper() || point < 0 || point > 255 ? NONE : place(point % 16, point / 16, 1);
         }
 
-        // Takes twice the coordinates. The ray is so nearly level that it meets no corner.
-        int place(long px, long py) {
-            long ray = 1000;
-            int met = 0;
+        // Of the point px / below, py / below: by how often the sides go round it, in quarters.
+        int place(long px, long py, long below) {
+            int quarters = 0;
             for (int i = 0; i < n(); i++) {
-                long ax = 2 * x(i) - px;
-                long ay = 2 * y(i) - py;
-                long bx = 2 * x(i + 1) - px;
-                long by = 2 * y(i + 1) - py;
+                long ax = below * x(i) - px;
+                long ay = below * y(i) - py;
+                long bx = below * x(i + 1) - px;
+                long by = below * y(i + 1) - py;
+                long turn = ax * by - ay * bx;
                 boolean between = Math.min(ax, bx) <= 0 && Math.max(ax, bx) >= 0
                     && Math.min(ay, by) <= 0 && Math.max(ay, by) >= 0;
-                if (ax * by == ay * bx && between) {
+                if (turn == 0 && between) {
                     return 0;
                 }
-                boolean aAbove = ray * ay > ax;
-                boolean bAbove = ray * by > bx;
-                if (aAbove != bAbove) {
-                    long far = ax * (by - ay) - ay * (bx - ax);
-                    long slant = ray * (by - ay) - (bx - ax);
-                    met += Long.signum(far) == Long.signum(slant) ? 1 : 0;
-                }
+                int passed = (quarter(bx, by) - quarter(ax, ay) + 4) % 4;
+                quarters += passed == 3 ? -1 : passed == 2 && turn < 0 ? -2 : passed;
             }
-            return met % 2 == 1 ? 1 : -1;
+            return quarters == 0 ? -1 : 1;
+        }
+
+        // Each has the half of the axis at which it begins, going round left.
+        int quarter(long vx, long vy) {
+            return vx > 0 && vy >= 0 ? 0 : vx <= 0 && vy > 0 ? 1 : vx < 0 ? 2 : 3;
         }
 
         boolean convex() {
@@ -212,14 +212,42 @@ public final class ModelTest {
             if (p == q || (p + 1) % n() == q || (q + 1) % n() == p) {
                 return false;
             }
-            for (int i = 0; i < n(); i++) {
-                int j = (i + 1) % n();
-                boolean joined = i == p || i == q || j == p || j == q;
-                if (common(p, q, i, j) > (joined ? ONE_POINT : NOTHING)) {
+            List<long[]> stops = stops(p, q);
+            for (int k = 1; k < stops.size(); k++) {
+                long[] low = stops.get(k - 1);
+                long[] high = stops.get(k);
+                long[] middle = {low[0] * high[1] + high[0] * low[1], 2 * low[1] * high[1]};
+                boolean isLast = high[0] == high[1];
+                if (!isInsideAt(p, q, middle) || !isLast && !isInsideAt(p, q, high)) {
                     return false;
                 }
             }
-            return place(x(p) + x(q), y(p) + y(q)) == 1;
+            return true;
+        }
+
+        // Between one stop and the next, the way from p to q does not pass the line through any side,
+        // so what holds of one point holds there of all. As fractions of the way, from 0 to 1.
+        List<long[]> stops(int p, int q) {
+            List<long[]> stops = new ArrayList<>();
+            stops.add(new long[] {0, 1});
+            stops.add(new long[] {1, 1});
+            for (int i = 0; i < n(); i++) {
+                long below = cross(p, q, i, i + 1);
+                long above = below == 0 ? dot(p, q, p, i) : cross(p, i, i, i + 1);
+                below = below == 0 ? dot(p, q, p, q) : below;
+                long sign = below < 0 ? -1 : 1;
+                if (sign * above > 0 && sign * above < sign * below) {
+                    stops.add(new long[] {sign * above, sign * below});
+                }
+            }
+            stops.sort((one, other) -> Long.compare(one[0] * other[1], other[0] * one[1]));
+            return stops;
+        }
+
+        boolean isInsideAt(int p, int q, long[] part) {
+            long px = part[1] * x(p) + part[0] * (x(q) - x(p));
+            long py = part[1] * y(p) + part[0] * (y(q) - y(p));
+            return place(px, py, part[1]) == 1;
         }
 
         List<int[]> allCuts() {
